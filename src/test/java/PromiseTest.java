@@ -3,7 +3,7 @@ public final class PromiseTest {
     private static final int MIN = Integer.MIN_VALUE;
     private static final int MAX = Integer.MAX_VALUE;
 
-    private static final int[] BAD_ROW_COUNT_EDGES = {MIN, -1, 8, 9, MAX};
+    private static final int[] BAD_ROWS = {MIN, -1, 8, 9, MAX};
     private static final int[] BAD_COEFS = {MIN, -100, -10, 10, 100, MAX};
     private static final int[] BAD_KINDS = {MIN, -1, 0, 4, 7, MAX};
     private static final int[] BAD_RHS = {MIN, -1000, -100, 100, 1000, MAX};
@@ -513,14 +513,14 @@ public final class PromiseTest {
     }
 
     private static void solveManyRows() {
-        GomoryBranch g = new GomoryBranch(3);
-        objective(g, 5, 4, 3);
+        GomoryBranch g = new GomoryBranch(4);
+        objective(g, 5, 4, 3, 2);
         for (int r = 0; r < 7; r++) {
-            row(g, GomoryBranch.LE, 99, 1, 1, 1);
+            row(g, GomoryBranch.LE, 99, 1, 1, 1, 1);
         }
-        optimal("seven loose rows", g, 84, 7, 7, 7);
-        row(g, GomoryBranch.LE, 5, 2, 3, 1);
-        optimal("the eighth row binds", g, 15, 0, 0, 5);
+        optimal("seven loose rows", g, 98, 7, 7, 7, 7);
+        row(g, GomoryBranch.LE, 5, 2, 3, 1, 1);
+        optimal("the eighth row binds", g, 15, 0, 0, 5, 0);
     }
 
     private static void promise10() {
@@ -627,7 +627,7 @@ public final class PromiseTest {
             due("getRhs(0)", g.getRhs(0), 7);
             due("getRhs(1)", g.getRhs(1), 2);
             due("getRhs(numRows())", g.getRhs(g.numRows()), 0);
-            for (int r : BAD_ROW_COUNT_EDGES) {
+            for (int r : BAD_ROWS) {
                 due("getRhs(" + r + ")", g.getRhs(r), 0);
             }
             same("getRhs", all(g), before);
@@ -645,7 +645,7 @@ public final class PromiseTest {
             due("getKind(0)", g.getKind(0), GomoryBranch.LE);
             due("getKind(1)", g.getKind(1), GomoryBranch.GE);
             due("getKind(numRows())", g.getKind(g.numRows()), 0);
-            for (int r : BAD_ROW_COUNT_EDGES) {
+            for (int r : BAD_ROWS) {
                 due("getKind(" + r + ")", g.getKind(r), 0);
             }
             same("getKind", all(g), before);

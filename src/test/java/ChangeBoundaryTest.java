@@ -27,7 +27,7 @@ public final class ChangeBoundaryTest {
 
     private static void objectiveAlone() {
         for (Sample s : Sample.ALL) {
-            int[] before = Look.at(s.make());
+            int[] before = Look.due(s);
             for (int v = 0; v < s.n(); v++) {
                 for (int coef : new int[] {-9, 0, 9}) {
                     changesOnly(s, Call.setObjective(v, coef), Look.with(before, Call.getObjective(v), coef));
@@ -69,7 +69,7 @@ public final class ChangeBoundaryTest {
 
     private static void boundsAlone() {
         for (Sample s : Sample.ALL) {
-            int[] before = Look.at(s.make());
+            int[] before = Look.due(s);
             for (int v = 0; v < s.n(); v++) {
                 for (int[] pair : new int[][] {{0, 7}, {0, 0}, {7, 7}, {4, 5}}) {
                     int[] due = Look.with(before, Call.getBound(v, 0), pair[0]);
@@ -152,7 +152,7 @@ public final class ChangeBoundaryTest {
 
     private static void rowAlone() {
         for (Sample s : Sample.ALL) {
-            int[] before = Look.at(s.make());
+            int[] before = Look.due(s);
             for (int kind = 1; kind <= 3 && s.rows() < 8; kind++) {
                 for (int rhs : new int[] {-99, 0, 99}) {
                     int[] due = Look.with(before, Call.numRows(), s.rows() + 1);
@@ -198,7 +198,7 @@ public final class ChangeBoundaryTest {
 
     private static void coefAlone() {
         for (Sample s : Sample.ALL) {
-            int[] before = Look.at(s.make());
+            int[] before = Look.due(s);
             for (int row = 0; row < s.rows(); row++) {
                 for (int v = 0; v < s.n(); v++) {
                     for (int coef : new int[] {-9, 0, 9}) {
@@ -299,7 +299,7 @@ public final class ChangeBoundaryTest {
     private static void removalAlone() {
         for (Sample s : Sample.ALL) {
             if (s.rows() > 0) {
-                int[] due = Look.with(Look.at(s.make()), Call.numRows(), s.rows() - 1);
+                int[] due = Look.with(Look.due(s), Call.numRows(), s.rows() - 1);
                 changesOnly(s, Call.removeLastRow(), withoutRow(due, s.rows() - 1));
             }
         }

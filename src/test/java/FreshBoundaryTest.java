@@ -94,7 +94,7 @@ public final class FreshBoundaryTest {
             fresh.addRow(GomoryBranch.GE, 5);
             fresh.setCoef(0, 0, 9);
             fresh.solve();
-            Look.same("work on a fresh object beside " + s, Look.at(used), Look.at(s.make()));
+            Look.same("work on a fresh object beside " + s, Look.at(used), Look.due(s));
         }
     }
 

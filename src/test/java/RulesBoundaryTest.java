@@ -114,7 +114,7 @@ public final class RulesBoundaryTest {
             noResult("fresh with n = " + n, new GomoryBranch(n));
         }
         for (Sample s : Sample.ALL) {
-            if (s.past() != Sample.Past.OPTIMAL) {
+            if (!s.isOptimal()) {
                 noResult(s.toString(), s.make());
             }
         }

@@ -44,7 +44,7 @@ public final class SolveBoundaryTest {
     private static void programStays() {
         for (Sample s : Sample.ALL) {
             GomoryBranch g = s.make();
-            int[] before = Look.withoutResult(Look.at(g));
+            int[] before = Look.withoutResult(Look.due(s));
             for (int i = 0; i < 3; i++) {
                 g.solve();
                 Look.same(s + ": solve() without its result", Look.withoutResult(Look.at(g)), before);
@@ -387,7 +387,7 @@ public final class SolveBoundaryTest {
     private static void sameAfterNoChange() {
         for (Sample s : Sample.solved()) {
             GomoryBranch g = s.make();
-            int[] before = Look.at(g);
+            int[] before = Look.due(s);
             for (Call call : Calls.joined(Calls.refused(s), Calls.getters(s))) {
                 call.on(g);
             }

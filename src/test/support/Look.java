@@ -36,6 +36,30 @@ final class Look {
         return look;
     }
 
+    // What is due from a sample, told by its own data: a look at an object would not show what the
+    // looking itself changes.
+    static int[] due(Sample s) {
+        int[] look = new int[CALLS.size()];
+        look[place(Call.numVars())] = s.n();
+        look[place(Call.numRows())] = s.rows();
+        look[place(Call.status())] = s.status();
+        look[place(Call.value())] = s.isOptimal() ? s.bestValue() : 0;
+        for (int v = 0; v < s.n(); v++) {
+            look[place(Call.point(v))] = s.isOptimal() ? s.best(v) : 0;
+            look[place(Call.getObjective(v))] = s.objective(v);
+            look[place(Call.getBound(v, 0))] = s.low(v);
+            look[place(Call.getBound(v, 1))] = s.high(v);
+        }
+        for (int row = 0; row < s.rows(); row++) {
+            look[place(Call.getKind(row))] = s.kind(row);
+            look[place(Call.getRhs(row))] = s.rhs(row);
+            for (int v = 0; v < s.n(); v++) {
+                look[place(Call.getCoef(row, v))] = s.coef(row, v);
+            }
+        }
+        return look;
+    }
+
     static int[] with(int[] look, Call call, int answer) {
         int[] changed = look.clone();
         changed[place(call)] = answer;

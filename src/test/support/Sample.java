@@ -49,6 +49,10 @@ record Sample(int n, int rows, Past past) {
         };
     }
 
+    boolean isOptimal() {
+        return past == Past.OPTIMAL;
+    }
+
     int objective(int v) {
         return OBJECTIVE[v];
     }

@@ -84,7 +84,7 @@ final class Sentences {
         GomoryBranch called = s.make();
         GomoryBranch left = s.make();
         String name = s.toString();
-        int[] before = Look.at(left);
+        int[] before = Look.due(s);
         for (Call call : calls) {
             call.on(called);
             Look.same(name + ": " + call.text(), Look.at(called), before);

@@ -4,7 +4,7 @@ import java.util.HashSet;
 import java.util.Set;
 
 // The plainest loop whose end can be seen from its own lines: for (int i = a; i < b; i++), with a body
-// that assigns neither i nor b.
+// that assigns neither i nor b. Whether a method that the body calls assigns a field b is not looked at.
 final class CountingLoop {
     private CountingLoop() {
     }

@@ -28,8 +28,8 @@ import javax.tools.SimpleJavaFileObject;
 import javax.tools.ToolProvider;
 
 // Finds what in a source breaks LANGUAGE.md. Rule 7 can't be read off a source; rules 9 and 11 need no
-// look of their own, since rule 3 leaves nothing to reach the outside with. Where a rule leaves the
-// reader to judge, this is stricter than the rule.
+// look of their own, since rule 3 leaves nothing to reach the outside with. Of rule 8 it is stricter than
+// asked: it takes no loop but the plainest.
 final class Language extends TreePathScanner<Void, Void> {
     private static final int MOST_PARAMETERS = 7;
     private static final int MOST_LINES = 60;

@@ -134,6 +134,7 @@ public final class LanguageTest {
 
     private static void loops() {
         breaksIn(8, "return f(i - 1);", "while (i < 3) { i++; } return i;", "do { i++; } while (i < 3); return i;",
+            "for (int k : a) { i += k; } return i;",
             "for (;;) { i++; if (i > 3) { return i; } }", "for (int k = 0; k < i; k++) { k--; } return i;",
             "for (int k = 0; k < i; k++) { i++; } return i;", "for (int k = 0; k < x; k++) { this.x += 1; } return i;",
             "for (int k = 0; k < i; i--) { x++; } return i;", "for (int k = 0; k != i; k++) { x++; } return i;",

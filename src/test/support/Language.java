@@ -437,6 +437,12 @@ final class Language extends TreePathScanner<Void, Void> {
     }
 
     @Override
+    public Void visitEnhancedForLoop(EnhancedForLoopTree tree, Void none) {
+        breaks(8, tree);
+        return super.visitEnhancedForLoop(tree, none);
+    }
+
+    @Override
     public Void visitWhileLoop(WhileLoopTree tree, Void none) {
         breaks(8, tree);
         return super.visitWhileLoop(tree, none);
